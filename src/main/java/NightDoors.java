@@ -555,6 +555,7 @@ public final class NightDoors {
         private int at = 0;
         private int fault = 0;
         private int place = NONE;
+        private int tokenEnd = NONE;
         private int nameFrom = 0;
         private int nameSize = 0;
 
@@ -583,6 +584,7 @@ public final class NightDoors {
             at = 0;
             fault = 0;
             place = NONE;
+            tokenEnd = NONE;
         }
 
         boolean failed() {
@@ -604,10 +606,10 @@ public final class NightDoors {
 
         /** Goes over the blanks: the byte behind them, NONE at the end. */
         int look() {
-            while (at < size && (byteAt(at) == 10 || byteAt(at) == 32)) {
+            while (at < size && at < bytes.length && (bytes[at] == 10 || bytes[at] == 32)) {
                 at++;
             }
-            return byteAt(at);
+            return at < size && at < bytes.length ? bytes[at] : NONE;
         }
 
         boolean sees(char sign) {
@@ -632,10 +634,6 @@ public final class NightDoors {
             }
         }
 
-        private static boolean isLetter(int c) {
-            return c >= 'a' && c <= 'z';
-        }
-
         private static boolean isDigit(int c) {
             return c >= '0' && c <= '9';
         }
@@ -644,16 +642,10 @@ public final class NightDoors {
             return isDigit(look());
         }
 
-        /** Words and numbers need a blank between them: whether it lacks here. */
-        private boolean isGlued() {
-            int c = byteAt(at - 1);
-            return isLetter(c) || isDigit(c);
-        }
-
+        /** How many letters stand here; none, where the blank behind a word or number lacks. */
         private int wordSize() {
-            look();
             int to = at;
-            while (to < size && isLetter(byteAt(to))) {
+            while (at != tokenEnd && to < size && to < bytes.length && bytes[to] >= 'a' && bytes[to] <= 'z') {
                 to++;
             }
             return to - at;
@@ -661,8 +653,9 @@ public final class NightDoors {
 
         /** The number of the word here among those of a row (one blank between two); NONE. */
         int wordIn(String words) {
+            look();
             int letters = wordSize();
-            if (letters == 0 || isGlued()) {
+            if (letters == 0) {
                 return NONE;
             }
             int number = 0;
@@ -685,7 +678,9 @@ public final class NightDoors {
         }
 
         void skipWord() {
+            look();
             at += wordSize();
+            tokenEnd = at;
         }
 
         boolean takeWord(String word) {
@@ -704,8 +699,9 @@ public final class NightDoors {
 
         /** Reads a NAME, whatever it stands for. */
         boolean takeName() {
+            look();
             int letters = wordSize();
-            if (letters == 0 || isGlued() || wordIn(OWN_WORDS) != NONE) {
+            if (letters == 0 || wordIn(OWN_WORDS) != NONE) {
                 blameHere(1);
             } else if (letters > LETTERS) {
                 blame(1, at + LETTERS);
@@ -716,12 +712,13 @@ public final class NightDoors {
             nameFrom = at;
             nameSize = letters;
             at += letters;
+            tokenEnd = at;
             return true;
         }
 
         /** Reads a number; one above the greatest can't be. */
         int takeNumber(int greatest) {
-            if (!seesDigit() || isGlued()) {
+            if (!seesDigit() || at == tokenEnd) {
                 blameHere(1);
                 return 0;
             }
@@ -736,6 +733,7 @@ public final class NightDoors {
             } else if (value > greatest) {
                 blame(2, from);
             }
+            tokenEnd = at;
             return value;
         }
     }
@@ -828,9 +826,9 @@ public final class NightDoors {
 
         private static int join(int step, int left, int right) {
             switch (step) {
-                case PLUS: return held((long) left + right);
-                case MINUS: return held((long) left - right);
-                case TIMES: return held((long) left * right);
+                case PLUS: return Math.max(-HELD, Math.min(HELD, left + right));
+                case MINUS: return Math.max(-HELD, Math.min(HELD, left - right));
+                case TIMES: return (int) Math.max(-HELD, Math.min(HELD, (long) left * right));
                 case OVER: return right == 0 ? 0 : Math.floorDiv(left, right);
                 case MIN: return Math.min(left, right);
                 case MAX: return Math.max(left, right);
@@ -841,10 +839,6 @@ public final class NightDoors {
                 case OR: return left | right;
                 default: return 0;
             }
-        }
-
-        private static int held(long n) {
-            return (int) Math.max(-HELD, Math.min(HELD, n));
         }
     }
 
@@ -863,10 +857,6 @@ public final class NightDoors {
             questions = ofQuestions;
         }
 
-        void read(int open) {
-            readSum(open);
-        }
-
         void emit(int step) {
             if (target != null) {
                 target.add(step);
@@ -882,6 +872,7 @@ public final class NightDoors {
             return false;
         }
 
+        /** Where a SUM stands; what it gives are steps of the target. */
         private void readSum(int open) {
             readProduct(open);
             for (int i = 0; i < TAPE && !text.failed(); i++) {
@@ -1160,7 +1151,6 @@ public final class NightDoors {
     private static final class DreamReader {
         private final Text text;
         private final SumReader sums;
-        private Dream told = new Dream();
 
         DreamReader(Text text, SumReader sums) {
             this.text = text;
@@ -1168,8 +1158,7 @@ public final class NightDoors {
         }
 
         /** How many STATEMENTS there are; NONE with a FAULT. */
-        int read(Dream into) {
-            told = into;
+        int read(Dream told) {
             told.clear();
             sums.write(told.reckoner, false);
             text.start();
@@ -1178,7 +1167,7 @@ public final class NightDoors {
                 if (statements == STATEMENTS) {
                     text.blameHere(5);
                 } else {
-                    readStatement();
+                    readStatement(told);
                     text.demand(';');
                 }
                 statements++;
@@ -1186,32 +1175,32 @@ public final class NightDoors {
             return text.failed() ? NONE : statements;
         }
 
-        private void readStatement() {
+        private void readStatement(Dream told) {
             int opener = text.wordIn(OPENERS);
             if (opener == NONE) {
                 text.blameHere(1);
                 return;
             }
-            if (isOneTooMany(opener)) {
+            if (isOneTooMany(told, opener)) {
                 text.blameHere(5);
                 return;
             }
             text.skipWord();
             switch (opener) {
-                case 0: readNewName(DREAD); break;
-                case 1: readDreamer(); break;
-                case 2: readFears(); break;
-                case 3: readGuide(); break;
-                case 4: readSum(MEET); break;
-                case 5: readSum(SHUN); break;
-                case 6: readSum(BYDAY); break;
+                case 0: readNewName(told, DREAD); break;
+                case 1: readDreamer(told); break;
+                case 2: readFears(told); break;
+                case 3: readGuide(told); break;
+                case 4: readSum(told, MEET); break;
+                case 5: readSum(told, SHUN); break;
+                case 6: readSum(told, BYDAY); break;
                 case 7: told.home = text.takeNumber(GREATEST_NUMBER); break;
                 case 8: told.laugh = text.takeNumber(100); break;
                 default: told.spite = text.takeNumber(HEAVIEST); break;
             }
         }
 
-        private boolean isOneTooMany(int opener) {
+        private static boolean isOneTooMany(Dream told, int opener) {
             switch (opener) {
                 case 0: return told.isFull(DREAD);
                 case 1: return told.isFull(DREAMER);
@@ -1223,31 +1212,31 @@ public final class NightDoors {
             }
         }
 
-        private void readDreamer() {
-            int dreamer = readNewName(DREAMER);
+        private void readDreamer(Dream told) {
+            int dreamer = readNewName(told, DREAMER);
             text.demandWord("brave");
             told.brave(dreamer, text.takeNumber(9));
         }
 
-        private void readFears() {
-            int dreamer = readKnownName(DREAMER);
-            int dread = readKnownName(DREAD);
+        private void readFears(Dream told) {
+            int dreamer = readKnownName(told, DREAMER);
+            int dread = readKnownName(told, DREAD);
             told.fear(dreamer, dread, text.takeNumber(HEAVIEST));
         }
 
-        private void readGuide() {
-            int guide = readNewName(GUIDE);
+        private void readGuide(Dream told) {
+            int guide = readNewName(told, GUIDE);
             text.demandWord("of");
-            told.lead(guide, readKnownName(DREAD));
+            told.lead(guide, readKnownName(told, DREAD));
         }
 
-        private void readSum(int which) {
+        private void readSum(Dream told, int which) {
             int start = told.reckoner.size;
-            sums.read(0);
+            sums.readSum(0);
             told.markSum(which, start);
         }
 
-        private int readNewName(int sort) {
+        private int readNewName(Dream told, int sort) {
             if (text.failed() || !text.takeName()) {
                 return NONE;
             }
@@ -1259,7 +1248,7 @@ public final class NightDoors {
             return text.failed() ? NONE : told.giveName(sort, text);
         }
 
-        private int readKnownName(int sort) {
+        private int readKnownName(Dream told, int sort) {
             if (text.failed() || !text.takeName()) {
                 return NONE;
             }
@@ -1469,10 +1458,9 @@ public final class NightDoors {
         private boolean byDread = false;
         private final Sleeper taker = new Sleeper();
         private int bestGuide = NONE;
-        private final Sleeper[] mornings = newSleepers(MET_BY_DAY + 1);
+        private final Sleeper morning = new Sleeper();
         private final int[] order = new int[MET_BY_DAY];
         private final int[] bestOrder = new int[MET_BY_DAY];
-        private int bestDays = 0;
         private final int[] ends = new int[ORDERS * DREADS];
         private int endCount = 0;
 
@@ -1490,7 +1478,7 @@ public final class NightDoors {
         int findLeast(Dream dream, Sleeper s) {
             steps[0].copy(s);
             byDread = true;
-            bestDread = Integer.MAX_VALUE;
+            bestDread = HELD;
             bestRooms = WAY + 1;
             seek(dream, 0, 0);
             return bestRooms <= WAY ? bestRooms : NONE;
@@ -1521,13 +1509,15 @@ public final class NightDoors {
         }
 
         private void goOn(Dream dream, int depth, int dread, boolean round) {
-            if (depth < 0 || depth >= WAY || !dream.canEnter(steps[depth], round)) {
+            if (depth < 0 || depth >= WAY) {
                 return;
             }
             steps[depth + 1].copy(steps[depth]);
             int with = dream.enter(steps[depth + 1], round);
-            way[depth] = round ? 1 : 0;
-            seek(dream, depth + 1, byDread ? dread + steps[depth].at(with) : 0);
+            if (with != NONE) {
+                way[depth] = round ? 1 : 0;
+                seek(dream, depth + 1, byDread ? dread + steps[depth].at(with) : 0);
+            }
         }
 
         /** ALONG: how many ROOMS; NONE without a WAY HOME with any. */
@@ -1547,48 +1537,60 @@ public final class NightDoors {
 
         /** DAYS: how many ROOMS behind them; NONE without a WAY HOME. */
         int findDays(Dream dream, Sleeper s, int set) {
-            mornings[0].copy(s);
-            bestDays = WAY + 1;
+            int fewest = WAY + 1;
             endCount = 0;
-            choose(dream, 0, set);
-            return bestDays <= WAY ? bestDays : NONE;
+            for (int number = 0; number < ORDERS; number++) {
+                int met = setOrder(set, number);
+                morning.copy(s);
+                for (int i = 0; i < met && i < order.length; i++) {
+                    dream.meetByDay(morning, order[i]);
+                }
+                int rooms = met == NONE || isEndKnown(morning) ? NONE : findSoonest(dream, morning, fewest);
+                if (rooms != NONE) {
+                    fewest = rooms;
+                    System.arraycopy(order, 0, bestOrder, 0, MET_BY_DAY);
+                }
+            }
+            return fewest <= WAY ? fewest : NONE;
         }
 
         int metByDay(int k) {
             return k >= 0 && k < bestOrder.length ? bestOrder[k] : NONE;
         }
 
-        private void choose(Dream dream, int depth, int set) {
-            if (set == 0) {
-                judge(dream, depth);
-                return;
+        /** Makes the order of this number (from 0 on) of a set: how many; NONE behind the last order. */
+        private int setOrder(int set, int number) {
+            int many = Integer.bitCount(set);
+            int orders = 1;
+            for (int i = 2; i <= many && i <= MET_BY_DAY; i++) {
+                orders *= i;
             }
-            for (int dread = 0; dread < DREADS; dread++) {
-                if ((set >> dread & 1) == 1) {
-                    pass(dream, depth, set, dread);
+            if (number >= orders || many > MET_BY_DAY) {
+                return NONE;
+            }
+            int left = set;
+            int rest = number;
+            for (int i = 0; i < many && i < order.length; i++) {
+                orders /= many - i;
+                order[i] = lowestBit(left, orders > 0 ? rest / orders : 0);
+                rest = orders > 0 ? rest % orders : 0;
+                left &= ~(1 << order[i]);
+            }
+            return many;
+        }
+
+        /** The lowest DREAD of a set that has so many of it below. */
+        private static int lowestBit(int set, int below) {
+            int seen = 0;
+            for (int i = 0; i < DREADS; i++) {
+                if ((set >> i & 1) == 1) {
+                    if (seen == below) {
+                        return i;
+                    }
+                    seen++;
                 }
             }
-        }
-
-        private void pass(Dream dream, int depth, int set, int dread) {
-            if (depth < 0 || depth >= MET_BY_DAY) {
-                return;
-            }
-            mornings[depth + 1].copy(mornings[depth]);
-            dream.meetByDay(mornings[depth + 1], dread);
-            order[depth] = dread;
-            choose(dream, depth + 1, set & ~(1 << dread));
-        }
-
-        private void judge(Dream dream, int depth) {
-            if (depth < 0 || depth >= mornings.length || isEndKnown(mornings[depth])) {
-                return;
-            }
-            int rooms = findSoonest(dream, mornings[depth], bestDays);
-            if (rooms != NONE) {
-                bestDays = rooms;
-                System.arraycopy(order, 0, bestOrder, 0, MET_BY_DAY);
-            }
+            return 0;
         }
 
         /** Orders that end alike have the same ways: the first of them is enough. */
@@ -1628,12 +1630,11 @@ public final class NightDoors {
 
         /** Whether he can be HOME behind this choice, whatever the dream does. */
         private boolean bears(Dream dream, int depth, int n, boolean round) {
-            if (depth < 0 || depth + 1 >= ahead.length || !dream.canEnter(ahead[depth], round)) {
+            if (depth < 0 || depth + 1 >= ahead.length || depth >= behind.length) {
                 return false;
             }
             behind[depth].copy(ahead[depth]);
-            dream.enter(behind[depth], round);
-            boolean safe = true;
+            boolean safe = dream.enter(behind[depth], round) != NONE;
             for (int i = 0; i < dream.count(DREAD) && safe; i++) {
                 ahead[depth + 1].copy(behind[depth]);
                 ahead[depth + 1].put(i, Math.min(HEAVIEST, behind[depth].at(i) + dream.spite));
@@ -1698,7 +1699,7 @@ public final class NightDoors {
             if (head <= 2) {
                 readTest(0);
             } else {
-                sums.read(0);
+                sums.readSum(0);
             }
             text.demandEnd();
             return !text.failed();
@@ -1736,20 +1737,15 @@ public final class NightDoors {
             } else if (text.takeWord("all")) {
                 sums.emit(1);
             } else {
-                readComparison(open);
-            }
-        }
-
-        private void readComparison(int open) {
-            sums.read(open);
-            int step = text.sees('<') ? LESS : text.sees('>') ? MORE : text.sees('=') ? LIKE : 0;
-            if (step == 0) {
-                text.blameHere(1);
-            }
-            if (!text.failed()) {
-                text.step();
-                sums.read(open);
-                sums.emit(step);
+                sums.readSum(open);
+                int step = text.sees('<') ? LESS : text.sees('>') ? MORE : text.sees('=') ? LIKE : 0;
+                if (step == 0) {
+                    text.blameHere(1);
+                } else {
+                    text.step();
+                    sums.readSum(open);
+                    sums.emit(step);
+                }
             }
         }
 
