@@ -40,7 +40,7 @@ public final class NightDoors {
     private static final int BYDAY = 2;
     private static final int SUMS = 3;
 
-    // The steps of a SUM or a TEST: a number from 0 on stands for itself, one below is an act.
+    // The steps of a SUM or a TEST: a number from 0 on stands for itself, one below is done.
     private static final int PLUS = -1;
     private static final int MINUS = -2;
     private static final int TIMES = -3;
@@ -73,8 +73,11 @@ public final class NightDoors {
     private static final String QUESTION_PARTS = "room dread worst sum many weigh min max";
     private static final String HEADS = "first last often total most least";
 
-    private static final int[] DREAM_STEPS = {-20, -21, -22, -23, -24, -25, -5, -6};
-    private static final int[] QUESTION_STEPS = {-26, -24, -21, -22, -23, -13, -5, -6};
+    // What the words of DREAM_PARTS and QUESTION_PARTS stand for, one by one.
+    private static final int[] DREAM_STEPS =
+        {FACTS - WEIGH, FACTS - WORST, FACTS - SUM, FACTS - MANY, FACTS - NUMBER, FACTS - BRAVE, MIN, MAX};
+    private static final int[] QUESTION_STEPS =
+        {FACTS - ROOM, FACTS - NUMBER, FACTS - WORST, FACTS - SUM, FACTS - MANY, WEIGHT_OF, MIN, MAX};
 
     private final Text tape = new Text();
     private final SumReader sums = new SumReader(tape);
