@@ -1656,7 +1656,7 @@ public final class NightDoors {
             for (int laughs = 0; laughs < 1 << n && n <= ROOMS_OF_CHANCE; laughs++) {
                 shares += shareHome(dream, s, n, laughs);
             }
-            return (int) (1000 * shares / all);
+            return all > 0 ? (int) (1000 * shares / all) : 0;
         }
 
         private long shareHome(Dream dream, Sleeper s, int n, int laughs) {

@@ -41,6 +41,8 @@ public final class ActsTest {
         Check.due("has(7), refused aside", x.has(7), 5);
         NightDoors y = Check.dreaming("dread a;dreamer d brave 2;fears d a 5;");
         Check.due("round with one DREAD", y.meet(0, true), -1);
+        Check.due("is refused", y.status(2), 1);
+        Check.due("is no ACT", y.has(7), 0);
         Check.due("one DREAD, without meet", y.meet(0, false), 0);
         weights("without meet", y, 0, 5);
         NightDoors z = Check.dreaming("dreamer d brave 2;");

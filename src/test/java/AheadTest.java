@@ -6,6 +6,7 @@ public final class AheadTest {
         comesAgain();
         withGuide();
         noneSuch();
+        eachByItself();
         Check.end();
     }
 
@@ -90,6 +91,18 @@ public final class AheadTest {
         Check.due("room(0, 1), led", x.room(0, 1), 1);
         Check.due("later(0, 1, 2), led", x.later(0, 1, 2), 10);
         Check.due("till(0), led", x.till(0), 2);
+    }
+
+    private static void eachByItself() {
+        String dream = "dread a;dreamer d brave 1;fears d a 9;meet weigh-2;home 1;";
+        Check.due("room first of all", Check.dreaming(dream).room(0, 3), 0);
+        Check.due("later first of all", Check.dreaming(dream).later(0, 0, 3), 3);
+        Check.due("till first of all", Check.dreaming(dream).till(0), 4);
+        Check.due("again first of all", Check.dreaming("dread a;dreamer d brave 1;fears d a 9;").again(0, 0), 1);
+        NightDoors x = Check.dreaming(dream);
+        x.room(0, 0);
+        x.set(0, 0, 6);
+        Check.due("later behind an ACT", x.later(0, 0, 1), 4);
     }
 
     private static void noneSuch() {

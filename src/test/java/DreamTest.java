@@ -12,6 +12,8 @@ public final class DreamTest {
         firstFault();
         whatStays();
         sums();
+        manyOfAll();
+        oneBehindAnother();
         Check.end();
     }
 
@@ -69,6 +71,8 @@ public final class DreamTest {
         Check.faulty("meet min(1;2);", 1, 10);
         Check.faulty("meet max(1,2;", 1, 12);
         Check.faulty("meet max(1)", 1, 10);
+        Check.faulty("meet min;", 1, 8);
+        Check.faulty("meet max", 1, 8);
         Check.faulty("meet [1];", 1, 5);
         Check.faulty("meet 1<2;", 1, 6);
     }
@@ -126,6 +130,9 @@ public final class DreamTest {
         Check.right("meet min(min(min(min(min(min(1,2),3),4),5),6),7);", 1);
         Check.faulty("meet ((((((1)))))+((((((2;", 4, 23);
         Check.right("meet ((((((1)))))+(((((2))))));", 1);
+        Check.right("meet min(1,(((((2))))));", 1);
+        Check.faulty("meet min(1,((((((2)))))));", 4, 16);
+        Check.right("meet max((((((1))))),(((((2))))))+((((((3))))));", 1);
     }
 
     private static void tooMany() {
@@ -194,6 +201,43 @@ public final class DreamTest {
         Check.due("an empty DREAM", x.dream(), 0);
         Check.due("no DREADS", x.has(0), 0);
         Check.due("no DREAMERS", x.has(1), 0);
+    }
+
+    private static void manyOfAll() {
+        StringBuilder text = new StringBuilder(SIX);
+        for (int i = 0; i < 4; i++) {
+            text.append("dreamer ").append("ghij".charAt(i)).append(" brave ").append(9 - i).append(";");
+            for (int j = 0; j < 6; j++) {
+                text.append("fears ").append("ghij".charAt(i)).append(" ").append("abcdef".charAt(j)).append(" ")
+                    .append(100 * i + 10 * j + 9).append(";");
+            }
+        }
+        for (int i = 0; i < 4; i++) {
+            text.append("guide ").append("klmn".charAt(i)).append(" of ").append("fdba".charAt(i)).append(";");
+        }
+        NightDoors x = Check.dreaming(text.toString());
+        int[] of = {5, 3, 1, 0};
+        for (int i = 0; i < 4; i++) {
+            Check.due("brave of " + i, x.dreamer(i, 0), 9 - i);
+            Check.due("guide " + i, x.guide(i), of[i]);
+            Check.due("letter of GUIDE " + i, x.letter(2, i, 0), 11 + i);
+            Check.due("letter of DREAMER " + i, x.letter(1, i, 0), 7 + i);
+            for (int j = 0; j < 6; j++) {
+                Check.due("weigh " + i + " " + j, x.weigh(i, j, 0), 100 * i + 10 * j + 9);
+                Check.due("letter of DREAD " + j, x.letter(0, j, 0), 1 + j);
+            }
+        }
+    }
+
+    // Each of these SUMs has some 500 parts: what an older text told must not be in the way.
+    private static void oneBehindAnother() {
+        NightDoors x = new NightDoors();
+        for (int i = 0; i < 12; i++) {
+            Check.tape(x, "dread a;dreamer d brave 1;fears d a 500;meet 1" + "+1".repeat(500) + "-" + i + ";");
+            Check.due("dream " + i, x.dream(), 4);
+            Check.due("a long SUM, " + i, x.weigh(0, 0, 2), 501 - i > 999 ? 999 : 501 - i);
+            Check.due("a long QUESTION, " + i, Check.ask(x, 0, "most 1" + "+1".repeat(600) + "+" + i), 601 + i);
+        }
     }
 
     private static void sum(String sum, int want) {

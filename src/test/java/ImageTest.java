@@ -76,6 +76,10 @@ public final class ImageTest {
         Check.due("nobody with d", x.dreamer(0, 1), -1);
         Check.due("g with e", x.dreamer(1, 1), 0);
         Check.due("e b", x.weigh(1, 1, 0), 4);
+        NightDoors three = Check.dreaming("dread a;dread b;dread c;dreamer d brave 1;");
+        Check.tape(three, withCheck(0, 0, 1, 0, 2, 3, 0));
+        Check.due("three DREADS", three.on(), true);
+        Check.due("three DREADS, the last", three.weigh(0, 2, 0), 768);
         NightDoors none = new NightDoors();
         Check.tape(none, withCheck());
         Check.due("without a DREAM", none.on(), true);

@@ -161,8 +161,14 @@ public final class ModelTest {
             int at = any(s.length() + 1);
             String bit = pick(" ", ";", "(", ")", "1", "99999", "0", "dread ", "guide ", "z", "abcdefg", "weigh ", "of",
                 "((((((((", "min(", ",", "=", "<", "A", "\t", "not ", "[", "]", "and ", " or", "meet 1;", "dread q;",
-                "dreamer r brave 1;", "weigh weigh weigh ", "not not not ", "\u00e9");
+                "dreamer r brave 1;", "weigh weigh weigh ", "not not not ", "\u00e9",
+                "dread qq;dread qr;dread qs;", "laugh 101;", "spite 1000;", "dreamer rr brave 10;", "home 1;".repeat(60));
             int kind = any(3);
+            int behind = s.indexOf(";", at) + 1;
+            if (any(3) == 0 && behind > 0) {
+                at = behind;
+                kind = 0;
+            }
             if (kind > 0 && at < s.length()) {
                 s.delete(at, Math.min(s.length(), at + 1 + any(5)));
             }

@@ -65,6 +65,17 @@ public final class WaysTest {
         NightDoors g = Check.dreaming(two(30, 20, "guide g of b;meet 0;shun weigh;home 30;"));
         g.take(0, 0);
         Check.due("the weight of b", g.least(0, -1), 20);
+        NightDoors ten = Check.dreaming("dread a;dreamer d brave 1;fears d a 10;meet weigh-1;byday weigh;");
+        Check.due("ten ROOMS, dread", ten.least(0, -1), 55);
+        Check.due("ten ROOMS", ten.least(0, 20), 10);
+        Check.due("ten ROOMS, along", ten.along(0, 1), 10);
+        Check.due("ten ROOMS, days", ten.days(0, 1, -1), 10);
+        Check.due("ten ROOMS, the day", ten.days(0, 1, 0), 0);
+        ten.set(0, 0, 11);
+        Check.due("eleven ROOMS, dread", ten.least(0, -1), -1);
+        Check.due("eleven ROOMS", ten.least(0, 20), -1);
+        Check.due("eleven ROOMS, along", ten.along(0, 1), -1);
+        Check.due("eleven ROOMS, days", ten.days(0, 1, -1), -1);
         NightDoors h = Check.dreaming(two(2, 1, "home 3;"));
         Check.due("HOME now", h.least(0, -1), 0);
         Check.due("HOME now, rooms", h.least(0, 20), 0);
@@ -91,6 +102,10 @@ public final class WaysTest {
         x.set(0, 2, 0);
         Check.due("nobody is needed", x.along(0, 0), 0);
         Check.due("nobody is needed, rooms", x.along(0, 1), 0);
+        // A guide of a would help, but there is none.
+        NightDoors no = Check.dreaming("dread a;dread b;dread c;dreamer d brave 1;fears d a 8;fears d b 10;fears d c 9;"
+            + "meet weigh*min(number,1);home 19;");
+        Check.due("no such GUIDE", no.along(0, 0), -1);
         NightDoors y = Check.dreaming(two(10, 9, "guide g of a;"));
         Check.due("no WAY HOME with any", y.along(0, 0), -1);
         Check.due("no WAY HOME with any, rooms", y.along(0, 1), -1);
@@ -185,6 +200,10 @@ public final class WaysTest {
         NightDoors c = Check.dreaming("dread a;dreamer d brave 1;fears d a 999;"
             + "meet 900-weigh/1000*400;home 998;spite 200;");
         Check.due("999 at most", c.against(0, 2), 0);
+        NightDoors three = Check.dreaming("dread a;dread b;dread c;dreamer d brave 1;fears d a 9;fears d b 9;fears d c 9;"
+            + "meet 0;");
+        Check.due("three, two ROOMS", three.against(0, 2), 0);
+        Check.due("three, three ROOMS", three.against(0, 3), 1);
         NightDoors w = Check.dreaming("dreamer d brave 1;");
         Check.due("without DREADS", w.against(0, 0), 1);
     }
