@@ -233,7 +233,8 @@ public final class NightDoors {
             return NONE;
         }
         future.go(current, sleepers[dreamer]);
-        for (int k = 1; k <= future.count; k++) {
+        // The weights behind the last ROOM are ahead of no ROOM, and count for nothing here.
+        for (int k = 1; k < future.count; k++) {
             int since = k - future.firstLike(k);
             if (since > 0) {
                 return what == 0 ? k : since;

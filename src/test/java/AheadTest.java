@@ -73,11 +73,20 @@ public final class AheadTest {
         NightDoors w = Check.dreaming("dread a;dreamer d brave 1;fears d a 300;meet weigh+1-weigh/498*199;");
         Check.due("again(0, 0), 199", w.again(0, 0), 199);
         Check.due("again(0, 1), 199", w.again(0, 1), 199);
+        // Ahead of the ROOMS 0 to 199 all are unlike: what comes again behind the last one is ahead of none.
         w.set(0, 0, 299);
-        Check.due("again(0, 0), just 200", w.again(0, 0), 200);
-        Check.due("again(0, 1), just 200", w.again(0, 1), 199);
+        Check.due("again(0, 0), behind the 200th ROOM", w.again(0, 0), -1);
+        Check.due("again(0, 1), behind the 200th ROOM", w.again(0, 1), -1);
         w.set(0, 0, 298);
-        Check.due("again(0, 0), more than 200", w.again(0, 0), -1);
+        Check.due("again(0, 0), later still", w.again(0, 0), -1);
+        Check.due("again(0, 1), later still", w.again(0, 1), -1);
+        // 800 to 999, where it stays.
+        NightDoors v = Check.dreaming("dread a;dreamer b brave 0;fears b a 800;meet weigh+1;");
+        Check.due("again(0, 0), held behind the 200th ROOM", v.again(0, 0), -1);
+        Check.due("again(0, 1), held behind the 200th ROOM", v.again(0, 1), -1);
+        v.set(0, 0, 801);
+        Check.due("again(0, 0), held ahead of the 200th ROOM", v.again(0, 0), 199);
+        Check.due("again(0, 1), held ahead of the 200th ROOM", v.again(0, 1), 1);
     }
 
     private static void withGuide() {

@@ -599,7 +599,7 @@ final class Model {
         }
         ahead(d);
         Map<String, Integer> seen = new HashMap<>();
-        for (int k = 0; k < states.size(); k++) {
+        for (int k = 0; k < rooms.size(); k++) {
             Integer before = seen.putIfAbsent(Arrays.toString(states.get(k)), k);
             if (before != null) {
                 return what == 0 ? k : k - before;
