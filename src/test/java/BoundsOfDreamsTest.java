@@ -3,8 +3,8 @@
  * sentence's words, on both sides of the bound.
  */
 public final class BoundsOfDreamsTest {
-    private static final String[] OWN_WORDS = ("dread dreamer brave fears guide of meet shun byday home laugh spite weigh"
-        + " worst sum many number min max").split(" ");
+    private static final String[] OWN_WORDS = ("dread dreamer brave fears guide of meet shun byday home laugh spite"
+        + " weigh worst sum many number min max").split(" ");
     private static final String SIX = "dread a;dread b;dread c;dread d;dread e;dread f;";
     private static final String FOUR = "dreamer g brave 0;dreamer h brave 0;dreamer i brave 0;dreamer j brave 0;";
     private static final String GUIDES = "guide k of a;guide l of a;guide m of f;guide n of b;";
@@ -72,8 +72,8 @@ public final class BoundsOfDreamsTest {
     // "5 .. a 71st STATEMENT (whatever stands there), at its first byte"
     private static void whateverStandsThere() {
         String seventy = "home 1;".repeat(70);
-        for (String what : new String[] {"home 1;", "?", ";", "x", "1", "(", "\u0000", "\u00ff", "\t", "dread of;", "meet",
-            "fears q q 1;", "laugh 101;", "12345", "abcdefgh"}) {
+        for (String what : new String[] {"home 1;", "?", ";", "x", "1", "(", "\u0000", "\u00ff", "\t", "dread of;",
+            "meet", "fears q q 1;", "laugh 101;", "12345", "abcdefgh"}) {
             Check.faulty(seventy + what, 5, 490);
             Check.faulty(seventy + " \n" + what, 5, 492);
         }
@@ -219,9 +219,11 @@ public final class BoundsOfDreamsTest {
         }
     }
 
-    // "N (1 to 4 digits)"; "where a number is asked, a 5th digit at itself"; elsewhere "numbers whole, at their first byte"
+    // "N (1 to 4 digits)"; "where a number is asked, a 5th digit at itself", elsewhere "numbers whole, at their first
+    // byte"
     private static void digits() {
-        String[] asked = {"home ", "laugh ", "spite ", "dreamer d brave ", ONE + "fears d a ", "meet ", "shun 1+", "byday ("};
+        String[] asked = {"home ", "laugh ", "spite ", "dreamer d brave ", ONE + "fears d a ", "meet ", "shun 1+",
+            "byday ("};
         for (String head : asked) {
             Check.faulty(head + ";", 1, head.length());
             Check.faulty(head + "00001;", 1, head.length() + 4);
@@ -239,7 +241,8 @@ public final class BoundsOfDreamsTest {
             String number = "1234".substring(0, n);
             Check.due("meet " + number, Check.dreaming(ONE + "meet " + number + ";").weigh(0, 0, 2), of[n - 1]);
         }
-        for (String head : new String[] {"", "dread ", "dread a ", "dreamer d ", "meet 1 ", "home 1;", "meet min ", "meet (2) "}) {
+        for (String head : new String[] {"", "dread ", "dread a ", "dreamer d ", "meet 1 ", "home 1;",
+            "meet min ", "meet (2) "}) {
             Check.faulty(head + "1;", 1, head.length());
             Check.faulty(head + "123456;", 1, head.length());
         }
@@ -472,8 +475,8 @@ public final class BoundsOfDreamsTest {
         Check.right("meet 1+weigh*2;shun(weigh);byday(((1)));", 3);
     }
 
-    private static final String[] TOKENS = ("dread a ; dreamer d brave 5 ; fears d a 7 ; guide g of a ; meet ( weigh + 2 ) * min"
-        + " ( 3 , max ( many - worst , brave ) ) / sum ; shun number ; byday 0 ; home 9 ; laugh 3 ; spite 4 ;").split(" ");
+    private static final String[] TOKENS = ("dread a ; dreamer d brave 5 ; fears d a 7 ; guide g of a ; meet ( weigh + 2 ) *"
+        + " min ( 3 , max ( many - worst , brave ) ) / sum ; shun number ; byday 0 ; home 9 ; laugh 3 ; spite 4 ;").split(" ");
 
     private static String upTo(int n) {
         StringBuilder s = new StringBuilder();
