@@ -7,6 +7,7 @@ public final class NightDoors {
     private static final int DREAMERS = 4;
     private static final int GUIDES = 4;
     private static final int STATEMENTS = 70;
+    private static final int NAMES = 14;
     private static final int LETTERS = 6;
     private static final int DIGITS = 4;
     private static final int GREATEST_NUMBER = 9999;
@@ -26,13 +27,17 @@ public final class NightDoors {
     private static final int TOLD = 20;
     private static final int PICTURE = 53;
     private static final int LEAST_DREAD_ROOMS = 20;
+    private static final int REFUSED = 6;
+
+    // Seven levels of brackets, in each of which six values wait at most: this is never full.
+    private static final int WAITING = 64;
 
     // The sorts of NAMES, as letter() numbers them, and where the first of each stands among all.
     private static final int DREAD = 0;
     private static final int DREAMER = 1;
     private static final int GUIDE = 2;
     private static final int SORTS = 3;
-    private static final int[] FIRST_NAME = {0, 6, 10, 14};
+    private static final int[] FIRST_NAME = {0, 6, 10, NAMES};
 
     // The SUMs of a DREAM.
     private static final int MEET = 0;
@@ -95,7 +100,7 @@ public final class NightDoors {
     private int toldOf = NONE;
     private final int[] picture = new int[PICTURE];
     private int pictureSize = 0;
-    private final int[] refusals = new int[6];
+    private final int[] refusals = new int[REFUSED];
     private int lot = 1;
 
     public NightDoors() {
@@ -746,7 +751,7 @@ public final class NightDoors {
     private static final class Reckoner {
         private final int[] steps = new int[TAPE];
         private int size = 0;
-        private final int[] stack = new int[64];
+        private final int[] stack = new int[WAITING];
         private int top = 0;
         private final int[] known = new int[KNOWN];
         private final int[] weights = new int[DREADS];
@@ -957,7 +962,7 @@ public final class NightDoors {
 
     /** THE DREAM: what its text tells, and what that makes of weights. */
     private static final class Dream {
-        private final int[] letters = new int[LETTERS * 14];
+        private final int[] letters = new int[LETTERS * NAMES];
         private final int[] counted = new int[SORTS];
         private final int[] braveries = new int[DREAMERS];
         private final int[] fears = new int[DREAMERS * DREADS];
