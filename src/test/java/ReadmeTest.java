@@ -87,7 +87,6 @@ public final class ReadmeTest {
         }
         same("the tests", new TreeSet<>(found("`(\\w+Test)`", page)), there);
         String run = Files.readString(Path.of(".ci/run"));
-        Check.due(".ci/run may be run", Files.isExecutable(Path.of(".ci/run")), true);
         for (String place : new String[] {".ci/run", "src/main/java/NightDoors.java", "../shared/tests", "src/test/java",
             "src/test/java/help", "javac", "build"}) {
             Check.due(place + " is told", page.contains(place), true);
